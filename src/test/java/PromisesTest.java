@@ -433,6 +433,9 @@ public final class PromisesTest {
         due(22, "side 2", x.check(2), BAD);
         due(22, "none wait behind BAD", x.count(4), 0);
         due(22, "no rows, no numbers", new RoomsDesk().check(1), 0);
+        RoomsDesk y = new RoomsDesk();
+        y.tell(NONE);
+        due(22, "one too many that looks like no row", y.check(0), 1);
     }
 
     static void put() {

@@ -6,9 +6,8 @@ import java.util.Random;
  * A fault is told at the first byte with which no text of the law goes on: what stands ahead of it
  * can be ended to a law, with it nothing can (tried with many ends).
  */
-public final class LawFaultsTest {
+public final class LawFaultsTest extends Due {
     static final List<String> ENDS = ends();
-    static int wrong = 0;
 
     static List<String> ends() {
         List<String> ends = new ArrayList<>();
@@ -27,22 +26,9 @@ public final class LawFaultsTest {
         return ends;
     }
 
-    static int law(String text) {
-        RoomsDesk x = new RoomsDesk();
-        for (int at = 0; at < text.length(); at += 12) {
-            int[] n = new int[3];
-            for (int i = 0; i < 12; i++) {
-                n[i / 4] = n[i / 4] << 8 | (at + i < text.length() ? text.charAt(at + i) : 0);
-            }
-            x.feed(n[0], n[1], n[2]);
-        }
-        x.trim(text.length());
-        return x.law();
-    }
-
     static boolean canBeEnded(String text) {
         for (String end : ENDS) {
-            if (text.length() + end.length() <= 96 && law(text + end) > 0) {
+            if (text.length() + end.length() <= 96 && law(new RoomsDesk(), text + end) > 0) {
                 return true;
             }
         }
@@ -50,7 +36,7 @@ public final class LawFaultsTest {
     }
 
     static void look(String text) {
-        int answer = law(text);
+        int answer = law(new RoomsDesk(), text);
         if (answer > 0) {
             return;
         }
@@ -59,13 +45,11 @@ public final class LawFaultsTest {
         if (place < text.length()) {
             isRight &= !canBeEnded(text.substring(0, place + 1));
         }
-        if (!isRight) {
-            wrong++;
-            System.out.println("'" + text + "' answered " + answer);
-        }
+        due("the fault of '" + text + "' (" + answer + ") is where it is due", isRight ? 1 : 0, 1);
     }
 
     public static void main(String[] args) {
+        sentence("the place (from 0) of the first byte with which no such TEXT goes on; the end, if it comes too soon");
         Random random = new Random(7);
         String[] laws = {"pass v>=75&n>50 bind y=c&!w", "pass(v)bind(y)", " pass !(v - -3) bind 5 ",
             "pass ((((((((v)))))))) bind s|(q&1)", "pass !!!!!!!!!!!!!!!!!!!!v bind -u", "pass t*2<=100 bind y+w<3"};
@@ -80,9 +64,6 @@ public final class LawFaultsTest {
             look(text);
             look(text.substring(0, random.nextInt(text.length() + 1)));
         }
-        System.out.println(wrong == 0 ? "all faults are where they are due" : wrong + " faults are elsewhere");
-        if (wrong != 0) {
-            System.exit(1);
-        }
+        end("all faults are where they are due");
     }
 }

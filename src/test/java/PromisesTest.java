@@ -1,47 +1,8 @@
 /** For each promise of the document ordinary calls, the edges that it names, and wrong ones. */
-public final class PromisesTest {
-    static final int BAD = RoomsDesk.BAD, NO = RoomsDesk.NO, FULL = RoomsDesk.FULL, NONE = RoomsDesk.NONE;
-    static final int NOTHING = RoomsDesk.NOTHING, INDEX = RoomsDesk.INDEX, SIZE = RoomsDesk.SIZE;
-    static final int MOST = Integer.MAX_VALUE, LEAST = Integer.MIN_VALUE;
-    static int wrong = 0;
-
+public final class PromisesTest extends Due {
     static void due(int promise, String what, int got, int want) {
-        if (got != want) {
-            wrong++;
-            System.out.println("promise " + promise + ": " + what + " answered " + got + ", due is " + want);
-        }
-    }
-
-    static RoomsDesk desk(int firms) {
-        RoomsDesk x = new RoomsDesk();
-        for (int i = 0; i < firms; i++) {
-            x.firm();
-        }
-        return x;
-    }
-
-    static int law(RoomsDesk x, String text) {
-        x.trim(0);
-        for (int at = 0; at < text.length(); at += 12) {
-            int[] n = new int[3];
-            for (int i = 0; i < 12; i++) {
-                n[i / 4] = n[i / 4] << 8 | (at + i < text.length() ? text.charAt(at + i) : 0);
-            }
-            x.feed(n[0], n[1], n[2]);
-        }
-        x.trim(text.length());
-        return x.law();
-    }
-
-    /** Claims of kind 0 on firm 0 with these amounts and votes, all in class 0. */
-    static RoomsDesk room(int[] amounts, int[] votes) {
-        RoomsDesk x = desk(1);
-        for (int c = 0; c < amounts.length; c++) {
-            x.claim(0, 0, c % 10, amounts[c]);
-            x.put(c, 0);
-            x.vote(c, votes[c]);
-        }
-        return x;
+        sentence("promise " + promise);
+        due(what, got, want);
     }
 
     static void newObject() {
@@ -1054,9 +1015,6 @@ public final class PromisesTest {
     public static void main(String[] args) {
         firstToWinding();
         classesToSheets();
-        System.out.println(wrong == 0 ? "all promises hold" : wrong + " answers are not as due");
-        if (wrong != 0) {
-            System.exit(1);
-        }
+        end("all promises hold");
     }
 }

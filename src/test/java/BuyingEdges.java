@@ -130,6 +130,7 @@ public final class BuyingEdges extends Due {
     static void least() {
         sentence("THE PURCHASE: the least cost, of several the fewest, then the first by bits (.. the lesser number)");
         duePurchase("two for 41 ahead of one for 60", room("v>=40", new int[] {60, 20, 21}, new int[] {2, 2, 2}), 100, 41, 1, 2);
+        duePurchase("and so by other numbers", room("v>=40", new int[] {20, 21, 60}, new int[] {2, 2, 2}), 100, 41, 0, 1);
         duePurchase("one for 40 ahead of two for 41", room("v>=39", new int[] {40, 20, 21, 20}, new int[] {2, 2, 2, 2}), 100, 40, 0);
         duePurchase("32 and 1 ahead of 20 and 20", room("n>=40&v>=20", new int[] {60, 20, 32, 20, 1}, many(5, 2)), 100, 33, 2, 4);
         duePurchase("one for 50 ahead of two for 50", room("v>=50", new int[] {20, 30, 50}, new int[] {2, 2, 2}), 100, 50, 2);
@@ -174,6 +175,33 @@ public final class BuyingEdges extends Due {
             due("asking changes no VOTE", x.told(c, 3), votes[c]);
         }
         due("asking does not let it pass", x.passes(0), 0);
+    }
+
+    static void oneByOne() {
+        sentence("bought: The i-th CLAIM of THE PURCHASE. / parted: The i-th CLAIM of THE PART. (each asked by itself)");
+        int[] amounts = {10, 20, 30, 41}, votes = {2, 2, 2, 2};
+        due("the first bought", room("v>=50", amounts, votes).bought(0, 100, 0), 0);
+        due("the second bought", room("v>=50", amounts, votes).bought(0, 100, 1), 3);
+        due("no third", room("v>=50", amounts, votes).bought(0, 100, 2), NONE);
+        due("none at all", room("v>=50&n=0", amounts, votes).bought(0, 100, 0), NO);
+        due("the first of the part", room("m=2", amounts, votes).parted(0, 0), 0);
+        due("the second of the part", room("m=2", amounts, votes).parted(0, 1), 1);
+        due("no third", room("m=2", amounts, votes).parted(0, 2), NONE);
+        due("no part at all", room("m=5", amounts, votes).parted(0, 0), NO);
+        RoomsDesk x = room("v>=50", amounts, votes);
+        x.claim(0, 0, 0, 60);
+        x.put(4, 1);
+        x.vote(4, 1);
+        due("the part of class 1", x.parted(1, 0), 4);
+        due("bought of class 0, behind it", x.bought(0, 100, 1), 3);
+        due("the part of class 0, behind it", x.parted(0, 0), NO);
+        due("the purchase of class 1", x.buy(1, 100), 0);
+        due("bought of class 0 by 1, where all cost nothing", x.bought(0, 1, 0), 0);
+        due("its second", x.bought(0, 1, 1), 3);
+        x.vote(3, 1);
+        due("a VOTE is told: bought of class 0", x.bought(0, 100, 0), 0);
+        due("the part of class 0", x.parted(0, 0), 3);
+        due("bought of class 1", x.bought(1, 100, 0), NONE);
     }
 
     static void parts() {
@@ -224,6 +252,7 @@ public final class BuyingEdges extends Due {
         ofTheFirstTen();
         least();
         whichThenVoteYes();
+        oneByOne();
         parts();
         end("the edges of buying and of parts hold");
     }

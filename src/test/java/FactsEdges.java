@@ -332,7 +332,15 @@ public final class FactsEdges extends Due {
         dueBeyond("holder", h -> x.trade(0, h), 0, 9, BAD);
         dueAll("a firm as holder", h -> x.trade(0, h), BAD, 10, 11, 12);
         dueBeyond("claim", c -> x.trade(c, 1), 0, 2, BAD);
-        dueAll("a firm holds it; to", h -> x.trade(1, h), NO, 0, 9);
+        dueAll("a firm holds it; to", h -> x.trade(1, h), NO, 0, 1, 9);
+        RoomsDesk held = desk(6);
+        held.claim(0, 3, 10, 70);
+        held.claim(0, 3, 15, 70);
+        held.claim(0, 3, 9, 70);
+        dueAll("the first firm holds it; to", h -> held.trade(0, h), NO, 0, 9);
+        dueAll("the last firm holds it; to", h -> held.trade(1, h), NO, 0, 5, 9);
+        due("the last people hold it", held.trade(2, 0), 9);
+        due("the first people hold it", held.trade(2, 9), 0);
         due("BAD stands first", x.trade(1, 10), BAD);
         due("they do", x.trade(0, 3), NO);
         int[] holders = {0, 9, 8, 0, 1, 2, 3, 4};

@@ -188,6 +188,15 @@ public final class KeptEdges extends Due {
         due("all wrong", x.copy(0, MOST, 1, MOST, MOST), INDEX);
         dueSheet(x, 0, 1, 2, 3, 4, 5);
         dueSheet(x, 1, 11, 12, 13);
+        sentence("copy: (a SHEET with 0 places is not MISSING)");
+        x.sheet(1, 0);
+        due("none from it", x.copy(1, 0, 0, 5, 0), 0);
+        due("none to it", x.copy(0, 5, 1, 0, 0), 0);
+        due("one from it", x.copy(1, 0, 0, 0, 1), INDEX);
+        due("one to it", x.copy(0, 0, 1, 0, 1), INDEX);
+        due("none, from behind its end", x.copy(1, 1, 0, 0, 0), INDEX);
+        due("none, from it to it", x.copy(1, 0, 1, 0, 0), 0);
+        dueSheet(x, 0, 1, 2, 3, 4, 5);
     }
 
     static void copies() {

@@ -459,6 +459,9 @@ public final class LawEdges extends Due {
         dueBind("the last, of KIND 0", x, 1, 1, 1, 1, 0, 0);
         x.put(12, 5);
         dueBind("the first of the last is of KIND 0", x, 1, 1, 1, 1, 0, 1);
+        x.put(0, 0);
+        x.put(1, 0);
+        dueBind("two QUARREL, and that is 1, too", x, 2, 2, 2, 2, 1, 1);
         RoomsDesk y = desk(1);
         y.asset(0, 5, 6, 0);
         y.claim(0, 0, 0, 100);
@@ -475,6 +478,12 @@ public final class LawEdges extends Due {
         law(z, "pass v bind s");
         dueBind("another CLASS passes", z, 1, 2, 0, 0, 0, 0);
         due("binds", z.binds(), 0);
+        z.vote(0, 1);
+        z.put(1, NONE);
+        dueBind("the very first CLAIM", z, 1, 1, 0, 0, 1, 0);
+        due("binds then", z.binds(), 1);
+        z.put(0, 5);
+        dueBind("in the last CLASS", z, 1, 1, 0, 0, 1, 0);
     }
 
     static void withoutLaw() {

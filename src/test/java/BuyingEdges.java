@@ -112,6 +112,8 @@ public final class BuyingEdges extends Due {
         duePurchase("ten vote no", room("n=100", many(10, 2), many(10, 2)), 100, 20, 0, 1, 2, 3, 4, 5, 6, 7, 8, 9);
         dueNone("eleven vote no", room("n=100", many(11, 2), many(11, 2)), 100);
         duePurchase("ten of eleven", room("n>=90", many(11, 2), many(11, 2)), 100, 20, 0, 1, 2, 3, 4, 5, 6, 7, 8, 9);
+        dueNone("none votes more than all", room("n>100", many(10, 2), many(10, 2)), 100);
+        dueNone("nor by VALUE", room("v>100", many(10, 2), many(10, 2)), 100);
         int[] amounts = many(24, 50), votes = many(24, 2);
         for (int c = 0; c < 24; c++) {
             // Seven of the first thirteen vote yes or none, so that the first ten that vote no end at 16.
